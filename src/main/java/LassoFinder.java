@@ -17,7 +17,7 @@ public final class LassoFinder {
     private final ModelReader reader;
     private final Situation situation;
     private final Graph graph;
-    private final Formula formula;
+    private final Formula asked;
     private final Truths truths;
     /** Made for the first formula that is verified, since its rows are by far the longest. */
     private LassoSearch search;
@@ -34,8 +34,8 @@ public final class LassoFinder {
         reader = new ModelReader(text, names, terms, program);
         situation = new Situation(names, terms, program);
         graph = new Graph(situation);
-        formula = new Formula(text, names, program);
-        truths = new Truths(graph, situation, formula);
+        asked = new Formula(text, names, program);
+        truths = new Truths(graph, situation, asked);
         walked = new int[WALK_LIMIT + 1];
         walkLength = NONE;
     }
@@ -63,10 +63,10 @@ public final class LassoFinder {
         if (!hasModel) {
             throw new IllegalStateException();
         }
-        formula.readAll();
+        asked.readAll();
         truths.fill();
         hasFormula = true;
-        return formula.temporals;
+        return asked.temporals;
     }
 
     public int place() {
@@ -429,7 +429,7 @@ public final class LassoFinder {
                 text.skip();
                 open++;
                 compared <<= 1;
-                await(OPEN);
+                putOff(OPEN);
             }
         }
 
@@ -462,7 +462,7 @@ public final class LassoFinder {
             }
             text.skip();
             release(sign);
-            await(sign);
+            putOff(sign);
             if (comparison) {
                 compared |= 1;
             }
@@ -486,7 +486,7 @@ public final class LassoFinder {
             }
         }
 
-        private void await(int sign) {
+        private void putOff(int sign) {
             waiting[waitingSigns] = sign;
             waitingSigns++;
         }
@@ -1964,7 +1964,7 @@ public final class LassoFinder {
 
         /** Takes the first step each time from which the rest of the cycle can be gone; bits are guess * 8 + met. */
         private void followCycle(int spot, int length) {
-            long allowed = 1L << spot % GUESSES * MASKS;
+            long allowed = 1L << (spot % GUESSES) * MASKS;
             int state = spot / GUESSES;
             for (int i = 0; i < length; i++) {
                 long next = 0;
@@ -1984,7 +1984,7 @@ public final class LassoFinder {
                 int place = (graph.stepTo[step] * GUESSES + g) * MASKS;
                 for (int met = 0; met < truths.guesses; met++) {
                     int now = met | truths.settled[earlier];
-                    if ((allowed >>> earlier % GUESSES * MASKS + met & 1) != 0 && canEnd(place, now, far)) {
+                    if ((allowed >>> (earlier % GUESSES) * MASKS + met & 1) != 0 && canEnd(place, now, far)) {
                         next |= 1L << g * MASKS + now;
                     }
                 }
