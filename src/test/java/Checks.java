@@ -92,19 +92,46 @@ final class Checks {
         same("formula " + text, got, temporals);
     }
 
-    void wrongModel(String text, int place) {
+    /** The text is wrong where the mark ` stands in it. */
+    void wrongModel(String marked) {
+        String text = marked.replace("`", "");
         LassoFinder finder = new LassoFinder();
         write(finder, text);
         throwing("model " + text, IAE, () -> finder.model());
-        same("place of " + text, finder.place(), place);
+        same("place of " + text, finder.place(), marked.indexOf('`'));
         same("count after " + text, finder.count(0), 0);
+        throwing("walk after " + text, ISE, () -> finder.walk());
     }
 
-    void wrongFormula(LassoFinder finder, String text, int place) {
+    /** The text isn't wrong, however many states it has. */
+    void rightModel(String text) {
+        LassoFinder finder = new LassoFinder();
+        write(finder, text);
+        same("model " + text + " being refused", thrownBy(() -> finder.model()).equals(IAE), false);
+        same("place of " + text, finder.place(), -1);
+    }
+
+    void wrongFormula(LassoFinder finder, String marked) {
+        String text = marked.replace("`", "");
         write(finder, text);
         throwing("formula " + text, IAE, () -> finder.formula());
-        same("place of " + text, finder.place(), place);
+        same("place of " + text, finder.place(), marked.indexOf('`'));
         throwing("verify after " + text, ISE, () -> finder.verify());
+    }
+
+    /** Walks from the first state by those steps. */
+    static void walk(LassoFinder finder, int... steps) {
+        finder.walk();
+        for (int step : steps) {
+            finder.go(step);
+        }
+    }
+
+    /** Reads the formula and compares its lasso, as in lasso(..). */
+    void lasso(LassoFinder finder, String formula, String due) {
+        write(finder, formula);
+        finder.formula();
+        same("lasso of " + formula, lasso(finder, 0), due);
     }
 
     /** The lasso as stem numbers, a slash and cycle numbers; "holds" if the formula does. */
