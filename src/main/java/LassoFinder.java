@@ -1126,13 +1126,16 @@ public final class LassoFinder {
                 case Program.WAIT:
                     return terms.reckon(program.expression[basic], amounts) != 0;
                 case Program.SEND:
-                    int name = program.channel[basic];
-                    return amounts[name] < names.digits[name] || partners(basic) != 0;
+                    return hasFreeSlot(program.channel[basic]) || partners(basic) != 0;
                 case Program.RECEIVE:
                     return amounts[program.channel[basic]] > 0;
                 default:
                     return false;
             }
+        }
+
+        private boolean hasFreeSlot(int channel) {
+            return amounts[channel] < names.digits[channel];
         }
 
         /** The RECEIVEs that are done together with this, one in each of its steps; none if it is done alone. */
@@ -1454,13 +1457,17 @@ public final class LassoFinder {
                     meetTemporal(depth);
                     return addTemporal(ONCE, readUnit(depth + 1), NONE);
                 case '(':
-                    goDeeper(depth);
-                    int inner = readFrom(WEAKEST, depth + 1);
-                    text.expect(')');
-                    return inner;
+                    return readBracketed(depth);
                 default:
                     return readAtom();
             }
+        }
+
+        private int readBracketed(int depth) {
+            goDeeper(depth);
+            int inner = readFrom(WEAKEST, depth + 1);
+            text.expect(')');
+            return inner;
         }
 
         private int readAtom() {

@@ -161,7 +161,8 @@ final class Dice {
     String spoiled(String text) {
         String signs = "abcdefgh01234567ABCDEFGH;={}()[]|<>*.^!?-~+:#@GFUR&$";
         int place = upTo(text.length());
-        String sign = String.valueOf(chance(50) ? signs.charAt(upTo(signs.length())) : text.charAt(upTo(text.length())));
+        String from = chance(50) ? signs : text;
+        char sign = from.charAt(upTo(from.length()));
         switch (upTo(8)) {
             case 0:
             case 1:

@@ -16,7 +16,8 @@ final class StateTest {
     private static void values() {
         LassoFinder x = CHECKS.modelled("c=5;h;#b2;{h=7;b!c;b!h}", 4);
         x.walk();
-        int[][] due = {{-1, 0, 5, -1, -1, -1, -1, 0}, {-1, 0, 5, -1, -1, -1, -1, 7}, {-1, 1, 5, -1, -1, -1, -1, 7}, {-1, 2, 5, -1, -1, -1, -1, 7}};
+        int[][] due = {{-1, 0, 5, -1, -1, -1, -1, 0}, {-1, 0, 5, -1, -1, -1, -1, 7}, {-1, 1, 5, -1, -1, -1, -1, 7}, {-1,
+                2, 5, -1, -1, -1, -1, 7}};
         for (int i = 0; i < 4; i++) {
             for (int name = 0; name < 8; name++) {
                 CHECKS.same("value " + name + " behind " + i, x.value(name), due[i][name]);
@@ -30,7 +31,8 @@ final class StateTest {
     }
 
     private static void reckoning() {
-        String[] terms = {"3+6", "2-5", "3*5", "1+2*3", "7-2-3", "2<3", "3<2", "2=2", "2=3", "(1+2)*3", "1+1=2", "1<1+1", "b", "b*b", "c+1", "2*(b-7)"};
+        String[] terms = {"3+6", "2-5", "3*5", "1+2*3", "7-2-3", "2<3", "3<2", "2=2", "2=3", "(1+2)*3", "1+1=2",
+                "1<1+1", "b", "b*b", "c+1", "2*(b-7)"};
         int[] due = {1, 5, 7, 7, 2, 1, 0, 1, 0, 1, 1, 1, 6, 4, 1, 6};
         for (int i = 0; i < terms.length; i++) {
             LassoFinder x = CHECKS.modelled("a=7;b=6;#c1;{a=" + terms[i] + "}", 2);

@@ -21,7 +21,8 @@ final class TruthTest {
     private static void rounds() {
         LassoFinder x = CHECKS.modelled("a;{*[a=1|a=2]}", 3);
         Checks.walk(x, 0, 1, 0);
-        truths(x, 1, true, "{a=0}", "F{a=1}", "GF{a=1}", "GF{a=2}", "{a<2}U{a=2}", "!FG{a=1}", "G({a=1}>F{a=2})", "FG{a}", "{a=2}R{a<3}");
+        truths(x, 1, true, "{a=0}", "F{a=1}", "GF{a=1}", "GF{a=2}", "{a<2}U{a=2}", "!FG{a=1}", "G({a=1}>F{a=2})",
+                "FG{a}", "{a=2}R{a<3}");
         truths(x, 1, false, "{a}", "G{a=0}", "FG{a=2}", "F{a=3}", "{a=0}U{a=2}", "{a=1}R{a=0}", "{0}R{a<2}");
         x.go(0);
         truths(x, 3, true, "FG{a=1}", "F{a=2}", "!GF{a=2}");

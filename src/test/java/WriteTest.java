@@ -27,7 +27,8 @@ final class WriteTest {
             for (int shift = 0; shift < 64; shift += 8) {
                 LassoFinder x = new LassoFinder();
                 CHECKS.same("byte " + w, x.write(w << shift), false);
-                CHECKS.same("byte " + w + " among others", x.write(0x2D2D2D2D2D2D2D2DL & ~(255L << shift) | w << shift), false);
+                CHECKS.same("byte " + w + " among others", x.write(0x2D2D2D2D2D2D2D2DL & ~(255L << shift) | w << shift),
+                        false);
                 CHECKS.write(x, "{-}");
                 CHECKS.same("states after a wrong word", Checks.statesOf(x), 2);
             }
