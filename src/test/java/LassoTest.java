@@ -35,6 +35,9 @@ final class LassoTest {
         CHECKS.lasso(x, "!(F{a=1}&FG!{a=1})", "0 0 / 1 0");
         CHECKS.lasso(x, "!(F{a=2}&FG!{a=2})", "1 0 / 0 0");
         CHECKS.lasso(x, "!(F({a=1}&F{a=2}))", "/ 0 0 1 0");
+        // Two ways of being false, each with its own cycle of the same length.
+        CHECKS.lasso(x, "!(G!{a=1}|G!{a=2})", "/ 0 0");
+        CHECKS.lasso(x, "!(G!{a=2}|G!{a=1})", "/ 0 0");
         CHECKS.lasso(x, "!({a<2}U{a=2}&F{a=1})", "/ 0 0 1 0");
     }
 

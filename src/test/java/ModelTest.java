@@ -20,6 +20,7 @@ final class ModelTest {
         CHECKS.modelled("a=1;{(a)}", 2);
         CHECKS.modelled("a;{*[a=1|a=2]}", 3);
         CHECKS.modelled("#a3;{*[a!1]}", 4);
+        CHECKS.modelled("#a3;b=1;{*[a!1;a!1;a!1;a?b;a?b;a?b]}", 6);
         CHECKS.modelled("#a0;{a!1}", 1);
         CHECKS.modelled("#a0;b;{a!1}{a?b}", 2);
         CHECKS.modelled("#a0;b;{a!1;a?b}", 1);
