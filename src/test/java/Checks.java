@@ -7,6 +7,7 @@ final class Checks {
     static final String NOTHING = "nothing";
 
     private final String test;
+    private String words = "";
     private int made;
     private int wrong;
 
@@ -19,12 +20,13 @@ final class Checks {
         void make();
     }
 
+    /** The checks that follow are of these words of the document. */
+    void sentence(String quoted) {
+        words = " \"" + quoted + "\"";
+    }
+
     void same(String what, long got, long due) {
-        made++;
-        if (got != due) {
-            wrong++;
-            System.out.println(test + ": " + what + " answered " + got + ", due is " + due);
-        }
+        same(what, Long.toString(got), Long.toString(due));
     }
 
     void same(String what, boolean got, boolean due) {
@@ -35,7 +37,7 @@ final class Checks {
         made++;
         if (!got.equals(due)) {
             wrong++;
-            System.out.println(test + ": " + what + " answered " + got + ", due is " + due);
+            System.out.println(test + words + ": " + what + " answered " + got + ", due is " + due);
         }
     }
 
@@ -94,11 +96,20 @@ final class Checks {
 
     /** The text is wrong where the mark ` stands in it. */
     void wrongModel(String marked) {
-        String text = marked.replace("`", "");
+        wrongModel(marked.replace("`", ""), marked.indexOf('`'));
+    }
+
+    void wrongModels(String... marked) {
+        for (String text : marked) {
+            wrongModel(text);
+        }
+    }
+
+    void wrongModel(String text, int place) {
         LassoFinder finder = new LassoFinder();
         write(finder, text);
         throwing("model " + text, IAE, () -> finder.model());
-        same("place of " + text, finder.place(), marked.indexOf('`'));
+        same("place of " + text, finder.place(), place);
         same("count after " + text, finder.count(0), 0);
         throwing("walk after " + text, ISE, () -> finder.walk());
     }
@@ -111,12 +122,35 @@ final class Checks {
         same("place of " + text, finder.place(), -1);
     }
 
+    void rightModels(String... texts) {
+        for (String text : texts) {
+            rightModel(text);
+        }
+    }
+
     void wrongFormula(LassoFinder finder, String marked) {
-        String text = marked.replace("`", "");
+        wrongFormula(finder, marked.replace("`", ""), marked.indexOf('`'));
+    }
+
+    void wrongFormulas(LassoFinder finder, String... marked) {
+        for (String text : marked) {
+            wrongFormula(finder, text);
+        }
+    }
+
+    void wrongFormula(LassoFinder finder, String text, int place) {
         write(finder, text);
         throwing("formula " + text, IAE, () -> finder.formula());
-        same("place of " + text, finder.place(), marked.indexOf('`'));
+        same("place of " + text, finder.place(), place);
         throwing("verify after " + text, ISE, () -> finder.verify());
+    }
+
+    void rightFormulas(LassoFinder finder, String... texts) {
+        for (String text : texts) {
+            write(finder, text);
+            same("formula " + text + " throwing", thrownBy(() -> finder.formula()), NOTHING);
+            same("place of " + text, finder.place(), -1);
+        }
     }
 
     /** Walks from the first state by those steps. */
@@ -125,6 +159,24 @@ final class Checks {
         for (int step : steps) {
             finder.go(step);
         }
+    }
+
+    /** The basic statements of the steps of the state that this way leads to, where the walk then stands. */
+    static String basics(LassoFinder finder, int... way) {
+        walk(finder, way);
+        StringBuilder out = new StringBuilder();
+        int steps = finder.steps();
+        for (int i = 0; i < steps; i++) {
+            walk(finder, way);
+            out.append(i == 0 ? "" : " ").append(finder.go(i));
+        }
+        walk(finder, way);
+        return out.toString();
+    }
+
+    /** Compares the basic statements of the steps of the state that this way leads to, where the walk then stands. */
+    void steps(LassoFinder finder, String due, int... way) {
+        same("steps behind " + java.util.Arrays.toString(way), basics(finder, way), due);
     }
 
     /** Reads the formula and compares its lasso, as in lasso(..). */
@@ -140,8 +192,10 @@ final class Checks {
             return "holds";
         }
         StringBuilder out = new StringBuilder();
-        for (int i = 0; i < finder.stem() + finder.cycle(); i++) {
-            out.append(i == finder.stem() ? "/ " : "").append(finder.lasso(i, what)).append(' ');
+        int stem = finder.stem();
+        int cycle = finder.cycle();
+        for (int i = 0; i < stem + cycle; i++) {
+            out.append(i == stem ? "/ " : "").append(finder.lasso(i, what)).append(' ');
         }
         return out.toString().trim();
     }

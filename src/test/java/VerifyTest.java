@@ -1,4 +1,4 @@
-/** Promise 6: which formulas hold. */
+/** Promise 6: which formulas hold; MeaningTest has the words on each sign. */
 final class VerifyTest {
     private static final Checks CHECKS = new Checks("VerifyTest");
 
@@ -6,8 +6,9 @@ final class VerifyTest {
         turning();
         choosing();
         standing();
+        lassoThen();
         twice();
-        without();
+        withoutFormula();
         CHECKS.end();
     }
 
@@ -54,22 +55,54 @@ final class VerifyTest {
         holds(y, false, "@0AU!@1B", "@1BU!@0A");
     }
 
+    private static void lassoThen() {
+        CHECKS.sentence("Whether the formula holds; if it doesn't, there is its lasso then.");
+        LassoFinder x = CHECKS.modelled("a;{*[a=1|a=2]}", 3);
+        CHECKS.write(x, "F{a=1}");
+        x.formula();
+        CHECKS.same("none before", x.stem(), -1);
+        CHECKS.same("verify", x.verify(), false);
+        CHECKS.same("stem", x.stem(), 1);
+        CHECKS.same("cycle", x.cycle(), 1);
+        CHECKS.same("the step", x.lasso(1, 1), 1);
+        CHECKS.formula(x, "F{a}", 1);
+        CHECKS.same("verify of one that holds", x.verify(), true);
+        CHECKS.same("no lasso of it", x.stem(), -1);
+    }
+
     private static void twice() {
+        CHECKS.sentence("Whether the formula holds");
         LassoFinder x = CHECKS.modelled("a;{*[a=1|a=2]}", 3);
         CHECKS.write(x, "F{a=1}");
         x.formula();
         CHECKS.same("first", Checks.lasso(x, 0), "1 / 1");
         CHECKS.same("second", Checks.lasso(x, 0), "1 / 1");
-        x.walk();
-        CHECKS.same("a walk changes no lasso", x.stem(), 1);
+        Checks.walk(x, 0, 1, 1);
+        CHECKS.same("third, on a walk", Checks.lasso(x, 0), "1 / 1");
+        CHECKS.same("the walk stays", x.value(0), 2);
+        CHECKS.formula(x, "F{a}", 1);
+        CHECKS.same("one that holds", x.verify() && x.verify(), true);
     }
 
-    private static void without() {
+    private static void withoutFormula() {
+        CHECKS.sentence("IllegalStateException: there is no formula.");
         LassoFinder x = new LassoFinder();
-        CHECKS.throwing("no model", Checks.ISE, () -> x.verify());
+        CHECKS.throwing("a new object", Checks.ISE, () -> x.verify());
         CHECKS.write(x, "{-}");
         x.model();
-        CHECKS.throwing("no formula", Checks.ISE, () -> x.verify());
+        CHECKS.throwing("a model alone", Checks.ISE, () -> x.verify());
+        CHECKS.write(x, "{0}");
+        CHECKS.throwing("only written", Checks.ISE, () -> x.verify());
         CHECKS.same("no lasso either", x.stem(), -1);
+        x.formula();
+        CHECKS.throwing("a formula", Checks.NOTHING, () -> x.verify());
+        CHECKS.throwing("no text", Checks.IAE, () -> x.formula());
+        CHECKS.throwing("behind a wrong formula", Checks.ISE, () -> x.verify());
+        CHECKS.formula(x, "{0}", 0);
+        CHECKS.write(x, "{-}");
+        x.model();
+        CHECKS.throwing("behind another model", Checks.ISE, () -> x.verify());
+        CHECKS.throwing("no text", Checks.IAE, () -> x.model());
+        CHECKS.throwing("no model", Checks.ISE, () -> x.verify());
     }
 }

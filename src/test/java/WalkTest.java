@@ -1,170 +1,193 @@
-/** Promises 10, 11 and 12, with the rules of the steps. */
+/** Promises 10, 11 and 12; StepTest has the rules of the steps. */
 final class WalkTest {
     private static final Checks CHECKS = new Checks("WalkTest");
+    private static final String TOO_BIG = "a;b;c;{*[a=a+1]}{*[b=b+1]}{*[c=c+1]}";
 
     public static void main(String[] args) {
-        walking();
+        beginsAnew();
+        walkWithoutModel();
+        howManySteps();
+        stepsWithoutWalk();
+        doesAStep();
+        goWithoutWalk();
+        noSuchStep();
         sixtySteps();
-        withoutWalk();
-        channels();
-        together();
-        elses();
-        holding();
+        sixtyOfStill();
+        throwsInOrder();
+        refusedChangesNothing();
         CHECKS.end();
     }
 
-    /** The basic statements of the steps of the walk's state, got by walking there anew. */
-    private static String basics(LassoFinder x, int... way) {
-        Checks.walk(x, way);
-        StringBuilder out = new StringBuilder();
-        int steps = x.steps();
-        for (int i = 0; i < steps; i++) {
-            Checks.walk(x, way);
-            out.append(i == 0 ? "" : " ").append(x.go(i));
+    private static void beginsAnew() {
+        CHECKS.sentence("A walk begins anew at the model's first state.");
+        LassoFinder x = CHECKS.modelled("a=2;#b1;{<b!5;a=3>}", 3);
+        for (int i = 0; i < 3; i++) {
+            x.walk();
+            CHECKS.same("value", x.value(0), 2);
+            CHECKS.same("messages", x.value(1), 0);
+            CHECKS.same("point", x.point(0), 0);
+            CHECKS.same("holder", x.holder(), -1);
+            CHECKS.same("steps", x.steps(), 1);
+            for (int k = 0; k < i; k++) {
+                x.go(0);
+            }
         }
-        Checks.walk(x, way);
-        return out.toString();
+        CHECKS.same("before it begins anew", x.value(0), 3);
+        x.walk();
+        CHECKS.same("behind that", x.value(0), 2);
+        CHECKS.formula(x, "{1}", 0);
+        CHECKS.throwing("its steps are gone, too", Checks.IAE, () -> x.truth(0));
     }
 
-    private static void walking() {
+    private static void walkWithoutModel() {
+        CHECKS.sentence("IllegalStateException: there is no model.");
+        LassoFinder x = new LassoFinder();
+        CHECKS.throwing("a new object", Checks.ISE, () -> x.walk());
+        CHECKS.write(x, "{-}");
+        CHECKS.throwing("only written", Checks.ISE, () -> x.walk());
+        x.model();
+        CHECKS.throwing("a model", Checks.NOTHING, () -> x.walk());
+        CHECKS.throwing("once more", Checks.NOTHING, () -> x.walk());
+        CHECKS.throwing("a wrong model", Checks.IAE, () -> x.model());
+        CHECKS.throwing("behind a wrong model", Checks.ISE, () -> x.walk());
+        CHECKS.write(x, TOO_BIG);
+        CHECKS.throwing("one too big", Checks.UOE, () -> x.model());
+        CHECKS.throwing("behind one too big", Checks.ISE, () -> x.walk());
+        CHECKS.same("there is none", x.steps(), 0);
+    }
+
+    private static void howManySteps() {
+        CHECKS.sentence("How many steps the state of the walk has");
         LassoFinder x = CHECKS.modelled("a;{a=1;[a=2|a=3]}{-}", 8);
         x.walk();
-        CHECKS.same("steps at first", x.steps(), 2);
-        CHECKS.same("first step", x.go(0), 0);
-        CHECKS.same("steps then", x.steps(), 3);
-        CHECKS.throwing("step -1", Checks.IOOBE, () -> x.go(-1));
-        CHECKS.throwing("step 3", Checks.IOOBE, () -> x.go(3));
-        CHECKS.throwing("step far off", Checks.IOOBE, () -> x.go(Integer.MAX_VALUE));
-        CHECKS.throwing("step far below", Checks.IOOBE, () -> x.go(Integer.MIN_VALUE));
-        CHECKS.same("nothing was done", x.steps(), 3);
-        CHECKS.same("second step", x.go(1), 2);
-        CHECKS.same("third step", x.go(0), 3);
-        CHECKS.same("only STILL", x.steps(), 1);
-        CHECKS.same("STILL", x.go(0), -1);
-        CHECKS.same("a is", x.value(0), 3);
+        CHECKS.same("at first", x.steps(), 2);
+        x.go(0);
+        CHECKS.same("behind one", x.steps(), 3);
+        x.go(2);
+        CHECKS.same("behind two", x.steps(), 2);
+        x.go(0);
+        CHECKS.same("STILL alone", x.steps(), 1);
+        x.go(0);
+        CHECKS.same("STILL again", x.steps(), 1);
+    }
+
+    private static void stepsWithoutWalk() {
+        CHECKS.sentence("0 without a walk");
+        LassoFinder x = new LassoFinder();
+        CHECKS.same("a new object", x.steps(), 0);
+        CHECKS.write(x, "{-}");
+        x.model();
+        CHECKS.same("a model alone", x.steps(), 0);
         x.walk();
-        CHECKS.same("anew", x.value(0), 0);
-        CHECKS.same("anew, steps", x.steps(), 2);
+        CHECKS.same("a walk", x.steps(), 1);
+        CHECKS.write(x, "{-}");
+        x.model();
+        CHECKS.same("another model", x.steps(), 0);
+    }
+
+    private static void doesAStep() {
+        CHECKS.sentence("The walk does a step of its state: its basic statement (of STILL -1).");
+        LassoFinder x = CHECKS.modelled("a;{a=1;[a=2|a=3]}{-}", 8);
+        x.walk();
+        CHECKS.same("the first of two", x.go(0), 0);
+        CHECKS.same("the second of three", x.go(1), 2);
+        CHECKS.same("a", x.value(0), 3);
+        CHECKS.same("the only one", x.go(0), 3);
+        CHECKS.same("STILL", x.go(0), -1);
+        CHECKS.same("STILL again", x.go(0), -1);
+        LassoFinder y = CHECKS.modelled("#a0;b;{a?b}{a!4}", 2);
+        y.walk();
+        CHECKS.same("the SEND of two", y.go(0), 1);
+        CHECKS.same("what was received", y.value(1), 4);
+    }
+
+    private static void goWithoutWalk() {
+        CHECKS.sentence("IllegalStateException: there is no walk");
+        LassoFinder x = new LassoFinder();
+        CHECKS.throwing("a new object", Checks.ISE, () -> x.go(0));
+        CHECKS.write(x, "{-}");
+        x.model();
+        CHECKS.throwing("a model alone", Checks.ISE, () -> x.go(0));
+        x.walk();
+        CHECKS.throwing("a walk", Checks.NOTHING, () -> x.go(0));
+        CHECKS.write(x, "{-}");
+        x.model();
+        CHECKS.throwing("another model", Checks.ISE, () -> x.go(0));
+    }
+
+    private static void noSuchStep() {
+        CHECKS.sentence("else IndexOutOfBoundsException: no such step");
+        LassoFinder x = CHECKS.modelled("{*[-|-|-]}", 1);
+        x.walk();
+        CHECKS.throwing("step 0", Checks.NOTHING, () -> x.go(0));
+        CHECKS.throwing("step 2", Checks.NOTHING, () -> x.go(2));
+        for (int step : new int[] {-1, 3, 4, Integer.MAX_VALUE, Integer.MIN_VALUE}) {
+            CHECKS.throwing("step " + step, Checks.IOOBE, () -> x.go(step));
+        }
+        LassoFinder y = CHECKS.modelled("{-}", 2);
+        Checks.walk(y, 0);
+        CHECKS.throwing("step 1 beside STILL", Checks.IOOBE, () -> y.go(1));
+        CHECKS.throwing("step -1 beside STILL", Checks.IOOBE, () -> y.go(-1));
     }
 
     private static void sixtySteps() {
+        CHECKS.sentence("else UnsupportedOperationException: it did 60 steps");
         LassoFinder x = CHECKS.modelled("a;{*[a=a+1]}", 8);
         x.walk();
         for (int i = 0; i < 60; i++) {
             CHECKS.same("step " + i, x.go(0), 0);
         }
-        CHECKS.throwing("step 61", Checks.UOE, () -> x.go(0));
-        CHECKS.throwing("no such step counts first", Checks.IOOBE, () -> x.go(1));
-        CHECKS.same("still there", x.value(0), 4);
+        CHECKS.throwing("the 61st", Checks.UOE, () -> x.go(0));
+        CHECKS.throwing("the 61st, again", Checks.UOE, () -> x.go(0));
+        CHECKS.same("it stands where it stood", x.value(0), 4);
         CHECKS.same("steps", x.steps(), 1);
         x.walk();
         CHECKS.same("anew", x.go(0), 0);
-        LassoFinder y = CHECKS.modelled("{-}", 2);
-        y.walk();
-        y.go(0);
+        CHECKS.same("a", x.value(0), 1);
+    }
+
+    private static void sixtyOfStill() {
+        CHECKS.sentence("(STILL counts)");
+        LassoFinder x = CHECKS.modelled("{-}", 2);
+        x.walk();
+        x.go(0);
         for (int i = 1; i < 60; i++) {
-            CHECKS.same("STILL " + i, y.go(0), -1);
+            CHECKS.same("STILL " + i, x.go(0), -1);
         }
-        CHECKS.throwing("STILL counts", Checks.UOE, () -> y.go(0));
-    }
-
-    private static void withoutWalk() {
-        LassoFinder x = new LassoFinder();
-        CHECKS.throwing("walk without a model", Checks.ISE, () -> x.walk());
-        CHECKS.write(x, "{-}");
-        x.model();
-        CHECKS.same("steps without a walk", x.steps(), 0);
-        CHECKS.throwing("go without a walk", Checks.ISE, () -> x.go(0));
-        CHECKS.throwing("go without a walk, no such step", Checks.ISE, () -> x.go(-1));
-    }
-
-    private static void channels() {
-        LassoFinder x = CHECKS.modelled("#a2;b;{a!1;a!2;a!3}{a?b;(b=1);a?b}", 11);
-        CHECKS.same("empty", basics(x), "0");
-        CHECKS.same("one", basics(x, 0), "1 3");
-        CHECKS.same("full", basics(x, 0, 0), "3");
-        CHECKS.same("the first is taken", basics(x, 0, 0, 0), "2 4");
-        CHECKS.same("value", x.value(1), 1);
-        CHECKS.same("then the second", basics(x, 0, 0, 0, 1), "2 5");
-        CHECKS.same("its turn", basics(x, 0, 0, 0, 1, 1), "2");
-        CHECKS.same("its value", x.value(1), 2);
-    }
-
-    private static void together() {
-        LassoFinder x = CHECKS.modelled("#a0;b;c;{[a!3|a!4]}{[a?c|a?b]}{a?b}", 7);
-        // SENDs by their numbers, and for each the RECEIVEs by theirs.
-        CHECKS.same("all pairs", basics(x), "0 0 0 1 1 1");
-        int[] b = {0, 3, 3, 0, 4, 4};
-        int[] c = {3, 0, 0, 4, 0, 0};
-        for (int i = 0; i < 6; i++) {
-            Checks.walk(x, i);
-            CHECKS.same("b behind pair " + i, x.value(1), b[i]);
-            CHECKS.same("c behind pair " + i, x.value(2), c[i]);
-            CHECKS.same("the receiver of pair " + i, x.point(i % 3 == 2 ? 2 : 1), i % 3 == 2 ? 1 : 3);
-            CHECKS.same("nothing stays in it", x.value(0), 0);
+        CHECKS.throwing("the 61st", Checks.UOE, () -> x.go(0));
+        // Steps that were refused don't count.
+        LassoFinder y = CHECKS.modelled("{*[-]}", 1);
+        y.walk();
+        for (int i = 0; i < 60; i++) {
+            CHECKS.throwing("no such step", Checks.IOOBE, () -> y.go(1));
+            CHECKS.throwing("step " + i, Checks.NOTHING, () -> y.go(0));
         }
-        LassoFinder y = CHECKS.modelled("#a0;b;{a!1}{(b);a?b}", 1);
-        CHECKS.same("the RECEIVE isn't at a point", basics(y), "-1");
-        LassoFinder z = CHECKS.modelled("#a0;b;{[a!1|a?b]}", 1);
-        CHECKS.same("not with itself", basics(z), "-1");
+        CHECKS.throwing("the 61st", Checks.UOE, () -> y.go(0));
     }
 
-    private static void elses() {
-        LassoFinder x = CHECKS.modelled("a;{*[(a)|~;a=1]}", 3);
-        CHECKS.same("nothing else", basics(x), "1");
-        CHECKS.same("something else", basics(x, 0, 0), "0");
-        LassoFinder y = CHECKS.modelled("#a0;b;{[a?b|~]}{a!1}", 3);
-        CHECKS.same("such a RECEIVE doesn't count", basics(y), "1 2");
-        LassoFinder z = CHECKS.modelled("#a0;b;{[a!1|~]}{a?b}", 2);
-        CHECKS.same("such a SEND does", basics(z), "0");
-        LassoFinder v = CHECKS.modelled("#a0;b;{[a!1|~]}{(b);a?b}", 2);
-        CHECKS.same("not without a RECEIVE", basics(v), "1");
-        LassoFinder w = CHECKS.modelled("a;{[[(a)|~]|~|[(a)]]}", 2);
-        CHECKS.same("all ELSE at the point", basics(w), "1 2");
-        LassoFinder u = CHECKS.modelled("a;{<-;(a);->}{[-|~]}", 5);
-        CHECKS.same("whoever holds", basics(u, 0), "3");
-        LassoFinder t = CHECKS.modelled("#a1;b;{[a?b|~]}", 2);
-        CHECKS.same("an empty channel", basics(t), "1");
-        LassoFinder s = CHECKS.modelled("a;{<-;[(a)|~];->}{-}", 8);
-        CHECKS.same("the holder's ELSE", basics(s, 0), "2");
+    private static void throwsInOrder() {
+        CHECKS.sentence("IllegalStateException: there is no walk; else IndexOutOfBoundsException: no such step; else");
+        LassoFinder x = CHECKS.modelled("{*[-]}", 1);
+        CHECKS.throwing("no walk, no such step", Checks.ISE, () -> x.go(-1));
+        CHECKS.throwing("no walk, no such step", Checks.ISE, () -> x.go(1));
+        x.walk();
+        for (int i = 0; i < 60; i++) {
+            x.go(0);
+        }
+        CHECKS.throwing("no such step, behind 60", Checks.IOOBE, () -> x.go(1));
+        CHECKS.throwing("no such step, behind 60", Checks.IOOBE, () -> x.go(-1));
+        CHECKS.throwing("behind 60", Checks.UOE, () -> x.go(0));
     }
 
-    private static void holding() {
-        LassoFinder x = CHECKS.modelled("a;{<a=1;a=2>}{-}", 6);
-        CHECKS.same("at first", basics(x), "0 2");
-        CHECKS.same("held", basics(x, 0), "1");
-        CHECKS.same("holder", x.holder(), 0);
-        CHECKS.same("not any more", basics(x, 0, 0), "2");
-        CHECKS.same("no holder", x.holder(), -1);
-        LassoFinder y = CHECKS.modelled("a;{<-;(a);->}{a=1;-}", 12);
-        CHECKS.same("the holder can't", basics(y, 0), "3");
-        CHECKS.same("it holds", y.holder(), 0);
-        CHECKS.same("none holds then", basics(y, 0, 0), "1 4");
-        CHECKS.same("no holder then", y.holder(), -1);
-        CHECKS.same("it holds again", basics(y, 0, 0, 0), "2");
-        LassoFinder z = CHECKS.modelled("#a0;b;{<a!3;->}{<a?b;->}", 4);
-        CHECKS.same("both at once", basics(z, 0), "3");
-        CHECKS.same("the receiver holds", z.holder(), 1);
-        LassoFinder w = CHECKS.modelled("#a0;b;{<a!3;->}{a?b;-}", 4);
-        CHECKS.same("the sender alone", basics(w, 0), "1");
-        CHECKS.same("the sender holds", w.holder(), 0);
-        LassoFinder v = CHECKS.modelled("#a0;b;{<-;a?b;->}{a!1}{-}", 9);
-        CHECKS.same("a RECEIVE isn't what it can do", basics(v, 0), "3 4");
-        CHECKS.same("it holds by receiving", basics(v, 0, 0), "2");
-        CHECKS.same("holder by receiving", v.holder(), 0);
-        LassoFinder u = CHECKS.modelled("a;{<-;(a)>}", 2);
-        CHECKS.same("STILL of a holder", basics(u, 0, 0), "-1");
-        CHECKS.same("it holds on", u.holder(), 0);
-        LassoFinder t = CHECKS.modelled("{<*[-;-]>}{-}", 6);
-        CHECKS.same("held at a repetition", basics(t, 0, 0), "0");
-        CHECKS.same("holder at a repetition", t.holder(), 0);
-        LassoFinder s = CHECKS.modelled("{*[<-;->]}{-}", 4);
-        CHECKS.same("not around the atomic", basics(s, 0, 0), "0 2");
-        LassoFinder r = CHECKS.modelled("{<:A-;->;^A}{-}", 6);
-        CHECKS.same("back into the same atomic", basics(r, 0, 0), "0");
-        CHECKS.same("its holder", r.holder(), 0);
-        LassoFinder q = CHECKS.modelled("{<-;->;<-;->}{-}", 10);
-        CHECKS.same("another atomic", basics(q, 0, 0), "2 4");
-        CHECKS.same("no holder in another", q.holder(), -1);
+    private static void refusedChangesNothing() {
+        CHECKS.sentence("no such step");
+        LassoFinder x = CHECKS.modelled("a;{a=1;a=2}{-}", 6);
+        Checks.walk(x, 0);
+        CHECKS.throwing("step 2", Checks.IOOBE, () -> x.go(2));
+        CHECKS.same("a", x.value(0), 1);
+        CHECKS.same("point", x.point(0), 1);
+        CHECKS.same("the other point", x.point(1), 0);
+        CHECKS.same("steps", x.steps(), 2);
+        CHECKS.same("the next step", x.go(0), 1);
     }
 }
