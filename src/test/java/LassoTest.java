@@ -12,6 +12,7 @@ final class LassoTest {
         firstStem();
         firstCycle();
         stemBeforeCycle();
+        falseOfTheRun();
         longest();
         lengthsWithout();
         numbersOfSteps();
@@ -100,6 +101,10 @@ final class LassoTest {
         CHECKS.lasso(x, "F{a=6}", "/ 1 0 0");
         CHECKS.lasso(x, "F({a=6}|{a=5})", "/ 0 0 0 0");
         CHECKS.lasso(x, "!G(F{a=4}&F{a=6})", "/ 1 0 0 2 0");
+        // Two ways of being false with cycles that aren't as long: the longer one would be the first.
+        LassoFinder y = CHECKS.modelled("a;{*[a=1;a=3;a=0|a=2;a=0]}", 4);
+        CHECKS.lasso(y, "F{a=2}&F{a=1}", "/ 1 0");
+        CHECKS.lasso(y, "F{a=1}&F{a=2}", "/ 1 0");
     }
 
     private static void firstStem() {
@@ -134,6 +139,15 @@ final class LassoTest {
         CHECKS.lasso(y, "!(G!{a=2}|G!{a=1})", "/ 0 0");
         CHECKS.lasso(y, "F{a=1}&F{a=2}", "/ 0 0");
         CHECKS.lasso(y, "F{a=2}&F{a=1}", "/ 0 0");
+        // Their last steps are the same.
+        LassoFinder v = CHECKS.modelled("a;{*[[a=1|a=2];a=3;a=0]}", 4);
+        CHECKS.lasso(v, "F{a=1}&F{a=2}", "/ 0 0 0");
+        CHECKS.lasso(v, "F{a=2}&F{a=1}", "/ 0 0 0");
+        CHECKS.lasso(v, "F{a=1}", "/ 1 0 0");
+        // Their first ones, too.
+        LassoFinder w = CHECKS.modelled("a;{*[-;[a=1|a=2];a=3;a=0]}", 5);
+        CHECKS.lasso(w, "F{a=1}&F{a=2}", "/ 0 0 0 0");
+        CHECKS.lasso(w, "F{a=2}&F{a=1}", "/ 0 0 0 0");
         LassoFinder z = CHECKS.modelled("{*[-|-|-]}", 1);
         CHECKS.lasso(z, "{0}", "/ 0");
     }
@@ -148,6 +162,37 @@ final class LassoTest {
         CHECKS.lasso(x, "!(GF{a=2})", "0 / 1 0");
         CHECKS.lasso(x, "!FG{a=2}", "1 / 1");
         CHECKS.lasso(x, "GF{a=1}>F{a=2}", "0 / 0");
+    }
+
+    private static void falseOfTheRun() {
+        CHECKS.sentence("so that the formula is false of the run by the stem and then the cycle for ever");
+        String[] models = {"a;{*[a=1|a=2]}", "a;{*[a=1;a=0|a=2;a=0]}", "a;{[a=1|a=2];[a=a+2|a=a+1]}",
+            "a=1;{*[<a=a+1;[(a<3)|~;a=0]>]}{-;*[-]}", "#b0;a;{*[b!a+1|b!a]}{*[b?a]}"};
+        String[] formulas = {"{0}", "G{a=0}", "F{a=7}", "GF{a=1}", "FG{a=1}", "{a<2}U{a=3}", "{a=1}R{a<2}",
+            "F{a=2}&F{a=1}", "!G(F{a=1}&F{a=2})", "G({a=1}>F{a=2})", "!(F{a=2}&FG!{a=2})", "{a=0}R({a<3}U{a=4})"};
+        for (String model : models) {
+            for (String formula : formulas) {
+                LassoFinder x = new LassoFinder();
+                CHECKS.write(x, model);
+                x.model();
+                CHECKS.write(x, formula);
+                x.formula();
+                if (!x.verify()) {
+                    gone(x, model + " and " + formula);
+                }
+            }
+        }
+    }
+
+    /** Walks the lasso, which leads back to the state behind the stem, and asks for the truth of that run. */
+    private static void gone(LassoFinder x, String both) {
+        x.walk();
+        for (int i = 0; i < x.stem() + x.cycle(); i++) {
+            int number = x.lasso(i, 0);
+            CHECKS.same("step " + i + " of " + both, x.go(number), x.lasso(i, 1));
+        }
+        CHECKS.throwing("the round of " + both, Checks.NOTHING, () -> x.truth(x.stem()));
+        CHECKS.same("truth of " + both, x.truth(x.stem()), false);
     }
 
     private static void longest() {

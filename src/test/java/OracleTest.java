@@ -7,6 +7,16 @@ final class OracleTest {
     private static final int PROMISED_CALLS = 512;
     private static final int MOST_FOR_STATE = 70;
     private static final int LEFT_FOR_LASSO = 100;
+    /** Models with almost as many states as there may be, for long searches. */
+    private static final String[] LARGE = {"a;b;{*[a=a+1|a=0]}{*[(b<5);b=b+1|b=0]}",
+        "a;b;{*[a=a+1]}{*[(b<5);b=b+1|b=0]}", "a;b;{*[a=a+1|b=b+1|(b=7);b=0]}",
+        "a;b;{*[a=a+1|(a=3);b=b+1|(b=4);b=0]}", "a;{*[a=a+1|a=a-1]}{:A*[-;-;:B-;-;-;-;-;-;-;-;-;-]}",
+        "a;b;{*[-;-;-;-;-;-;-;-;-;b=b+1;[(b)|(b=0);[a=1|a=2|a=3];a=0]]}"};
+    /** Models and formulas for which the cycle is searched among the most states and guesses. */
+    private static final String[] LONG_SEARCHES = {"a;b;{*[a=a+1]}{*[(b<5);b=b+1|b=0]}",
+        "((!F{a*2+b=5})|((!{a=2}&{a*2+b=7})R({b<5}U{a*2+b=1})))&{a=7}", "a;b;{*[a=a+1|a=0]}{*[(b<5);b=b+1|b=0]}",
+        "(({a*2+b=5}R!{a=1}&{a*2+b=0})R!{b=3})R!{a=5}", "a;b;{*[a=a+1|a=0]}{*[(b<5);b=b+1|b=0]}",
+        "((G({a*2+b=4}|!{a=0}))&(!F{a*2+b=7}))&({a*2+b=2}R!{b=2})"};
     private static LassoFinder finder;
     private static int callsLeft;
     private static int modelsFit;
@@ -24,6 +34,14 @@ final class OracleTest {
         int rounds = args.length > 0 ? Integer.parseInt(args[0]) : 1500;
         long seed = args.length > 1 ? Long.parseLong(args[1]) : 7;
         Dice dice = new Dice(seed);
+        for (int i = 0; i < LONG_SEARCHES.length; i += 2) {
+            Oracle oracle = new Oracle();
+            oracle.readModel(LONG_SEARCHES[i]);
+            oracle.explore();
+            begin(LONG_SEARCHES[i]);
+            used().model();
+            tryFormula(oracle, LONG_SEARCHES[i], LONG_SEARCHES[i + 1], dice);
+        }
         for (int i = 0; i < rounds; i++) {
             String text = dice.model();
             if (text.length() <= 240) {
@@ -32,6 +50,9 @@ final class OracleTest {
             String spoiled = dice.spoiled(text);
             if (spoiled.length() <= 240) {
                 tryModel(spoiled, dice);
+            }
+            if (i % 5 == 0) {
+                tryModel(LARGE[dice.upTo(LARGE.length)], dice);
             }
         }
         System.out.println("models " + modelsFit + ", too big " + modelsTooBig + ", wrong " + modelsWrong);

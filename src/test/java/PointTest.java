@@ -84,6 +84,15 @@ final class PointTest {
         points("{-}{-}", "0 1", 0);
         points("{-;[-]}", "0 1 3", 0, 0);
         points("{-;<->}", "0 1 2", 0, 0);
+        // At its END nothing is done, also where it has the most points.
+        LassoFinder x = CHECKS.modelled("{-" + ";-".repeat(29) + "}{-;-}", 93);
+        Checks.walk(x, new int[30]);
+        CHECKS.same("END", x.point(0), 30);
+        CHECKS.same("the other one's step", x.go(0), 30);
+        CHECKS.same("one step", x.steps(), 1);
+        CHECKS.same("its next one", x.go(0), 31);
+        CHECKS.same("STILL", x.go(0), -1);
+        CHECKS.same("steps in all", x.count(1), 30 * 3 + 31 * 2 + 1);
     }
 
     private static void insteadOfAtomic() {
@@ -126,6 +135,8 @@ final class PointTest {
         points("{-;^A;*[-;:A.]}", "0 3", 0);
         points("{*[-;.;-];-}", "0 3", 0);
         points("{*[<-;^A>];-;:A<->}", "0 3", 0);
+        points("{*[-;.;:A-];-;^A}", "0 3 2 0", 0, 0, 0);
+        points("{:B-;^C;:A-;^B;:C-;^A}", "0 2 1 0", 0, 0, 0);
     }
 
     private static void atFirst() {

@@ -9,6 +9,7 @@ final class ReckonTest {
         strengths();
         comparisons();
         channelNames();
+        everyName();
         everywhere();
         CHECKS.end();
     }
@@ -95,8 +96,16 @@ final class ReckonTest {
         is("((((1))))", 1);
         is("1+1+1+1+1+1+1+1+1+1+1+1", 4);
         is("a-((b-1)*(2+3))", 6);
+        is("3=1+2", 1);
+        is("3=5-2", 1);
+        is("0<1+2", 1);
+        is("7<1+2", 0);
+        is("2=2*1", 1);
         is("(1=(1<(1=(0<1))))", 0);
         is("1=(0<(1=1))", 1);
+        // As many signs as there can be wait for what is in parentheses.
+        is("1=1+1*(1=1+1*(1=1+1*(1=1+(1))))", 1);
+        is("2=1+1*(1=1+1*(1=1+1*(1=1+(0))))", 1);
     }
 
     private static void comparisons() {
@@ -127,6 +136,22 @@ final class ReckonTest {
         x.go(0);
         x.go(0);
         CHECKS.same("behind a RECEIVE", x.value(1), 2);
+    }
+
+    private static void everyName() {
+        CHECKS.sentence("A name is a letter a .. h");
+        for (char name = 'a'; name <= 'h'; name++) {
+            char other = name == 'a' ? 'b' : 'a';
+            LassoFinder x = CHECKS.modelled(other + ";" + name + "=5;{" + other + "=1+" + name + "*" + name + "}", 2);
+            Checks.walk(x, 0);
+            CHECKS.same("1 + 5 * 5 with " + name, x.value(other - 'a'), 2);
+            CHECKS.lasso(x, "{" + name + "=5}", "holds");
+            LassoFinder y = CHECKS.modelled(other + ";#" + name + "3;{" + name + "!7;" + name + "!6;" + other + "=1+"
+                    + name + "}", 4);
+            Checks.walk(y, 0, 0, 0);
+            CHECKS.same("1 + 2 messages in " + name, y.value(other - 'a'), 3);
+            CHECKS.lasso(y, "F{" + name + "=2}", "holds");
+        }
     }
 
     private static void everywhere() {

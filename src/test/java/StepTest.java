@@ -3,6 +3,7 @@ final class StepTest {
     private static final Checks CHECKS = new Checks("StepTest");
 
     public static void main(String[] args) {
+        numbers();
         sets();
         waits();
         sends();
@@ -35,6 +36,19 @@ final class StepTest {
     private static void holder(LassoFinder x, int due, int... way) {
         Checks.walk(x, way);
         CHECKS.same("holder behind " + way.length + " steps", x.holder(), due);
+    }
+
+    private static void numbers() {
+        CHECKS.sentence("The first six are BASIC; they are numbered from 0 in the order of the text");
+        // 0 a=1, 1 -, 2 (0), 3 b?a, 4 b!1, 5 ~, 6 - of the second process; atomics, breaks and jumps have none.
+        LassoFinder x = model("a;#b1;{<a=1>;[-|(0)];:A*[b?a;^A|b!1|~;.]}{-}");
+        CHECKS.steps(x, "0 6");
+        CHECKS.steps(x, "1 6", 0);
+        CHECKS.steps(x, "4 6", 0, 0);
+        CHECKS.steps(x, "3 6", 0, 0, 0);
+        CHECKS.same("of them there are", x.count(2), 7);
+        CHECKS.steps(model("{[(0)|~;-]}{-}"), "1 3");
+        CHECKS.steps(model("{-;-;-;-}{-;-}{-}"), "0 4 6");
     }
 
     private static void sets() {
@@ -136,6 +150,9 @@ final class StepTest {
         CHECKS.steps(model("#a0;#b1;c;{a!1}{b?c}"), "-1");
         CHECKS.steps(model("#a0;b;{a!1}{(b);a?b}"), "-1");
         CHECKS.steps(model("#a0;b;{a!1}{[-;a?b]}"), "1");
+        CHECKS.steps(model("#a0;b;{-;a!1}{[a?b|-]}"), "1 3", 0);
+        CHECKS.steps(model("#a0;b;{-;a!1}{[a?b|-]}"), "-1", 0, 1);
+        CHECKS.steps(model("#a0;b;{[a?b|-]}{-;a!1}"), "-1", 0, 0);
         // One with slots is never sent and received in one step.
         LassoFinder x = CHECKS.modelled("#a1;b;{a!1}{a?b}", 3);
         CHECKS.steps(x, "0");
